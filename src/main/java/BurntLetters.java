@@ -756,7 +756,7 @@ public final class BurntLetters {
 
         private long grown(long before, int file) {
             for (int letter = 0; letter < LETTERS; letter++) {
-                if (!Shelf.hasLeaf(before, file, letter) && hasRoom(before, letter)) {
+                if (!Shelf.hasLeaf(before, file, letter) && Shelf.fullness(before, letter) < law.room) {
                     return Shelf.turned(before, file, letter);
                 }
             }
@@ -854,52 +854,18 @@ public final class BurntLetters {
             return true;
         }
 
+        /**
+         * A renaming takes away one leaf at most of those that are too many. And one can: a letter with too many has two
+         * files at least that are not under a letter with less than it may have, and there is room. So it takes as many
+         * renamings as there are leaves too many, if the letters together may have them all.
+         */
         int fewestRenamings(int most) {
-            for (int renamings = 0; renamings <= MOST_RENAMINGS; renamings++) {
-                if (canSettle(archive.shelf, most, renamings)) {
-                    return renamings;
-                }
-            }
-            return NONE;
-        }
-
-        /** Whether so many renamings, or fewer, leave no letter with more than so many leaves. */
-        private boolean canSettle(long shelf, int most, int renamingsLeft) {
-            int excess = excessOver(shelf, most);
-            if (excess == 0 || excess > renamingsLeft) {
-                return excess == 0;
-            }
-            // A renaming takes away one of the excess at most: with none to spare, only such ones are tried.
-            boolean noneToSpare = excess == renamingsLeft;
-            for (int from = 0; from < LETTERS; from++) {
-                if (noneToSpare && Shelf.fullness(shelf, from) <= most) {
-                    continue;
-                }
-                for (int file = 0; file < archive.files; file++) {
-                    if (Shelf.hasLeaf(shelf, file, from) && canSettleFrom(shelf, file, from, most, renamingsLeft)) {
-                        return true;
-                    }
-                }
-            }
-            return false;
-        }
-
-        private boolean canSettleFrom(long shelf, int file, int from, int most, int renamingsLeft) {
-            for (int to = 0; to < LETTERS; to++) {
-                if (archive.mayRename(shelf, file, from, to)
-                    && canSettle(Shelf.moved(shelf, file, from, to), most, renamingsLeft - 1)) {
-                    return true;
-                }
-            }
-            return false;
-        }
-
-        private static int excessOver(long shelf, int most) {
-            int excess = 0;
+            int tooMany = 0;
             for (int letter = 0; letter < LETTERS; letter++) {
-                excess += Math.max(0, Shelf.fullness(shelf, letter) - most);
+                tooMany += Math.max(0, Shelf.fullness(archive.shelf, letter) - most);
             }
-            return excess;
+            boolean placeForAll = Shelf.allLeaves(archive.shelf) <= LETTERS * most;
+            return placeForAll && tooMany <= MOST_RENAMINGS ? tooMany : NONE;
         }
 
         int rowsThatFit() {

@@ -556,18 +556,33 @@ public final class PromisesTest {
     }
 
     private static void p18MovingWithinRoom() {
-        // Each of 0 and 1 has six leaves or all but one: the free letter of the second is full for moving(1).
         BurntLetters x = Due.under("111115;2");
         x.file(1, 0);
         for (int letter = 1; letter < 5; letter++) {
             x.copy(0, letter);
         }
         x.file(0, 0);
-        // Under 0 are two: the rumour's goes to 5, or the file's does.
+        // Two leaves are under 0; either may go to 5.
         due.is("18 one goes", x.moving(1), 1);
         x.copy(1, 5);
-        // Seven leaves for six letters.
-        due.is("18 there are too many", x.moving(1), NONE);
+        due.is("18 seven leaves for six letters", x.moving(1), NONE);
+
+        x = Due.under("111115;3");
+        x.file(1, 0);
+        x.file(1, 0);
+        x.file(0, 0);
+        for (int letter = 1; letter < 4; letter++) {
+            x.copy(0, letter);
+            x.copy(1, letter);
+        }
+        x.copy(2, 1);
+        // Under 0 to 5 are 3, 3, 2, 2, 0, 0: the file's two leaves go to 4 and 5.
+        due.is("18 two letters have one too many", x.moving(2), 2);
+        for (int letter = 4; letter < 6; letter++) {
+            x.copy(0, letter);
+            x.copy(1, letter);
+        }
+        due.is("18 fourteen leaves for twelve places", x.moving(2), NONE);
 
         x = Due.under("111115;1");
         x.file(0, 0);
