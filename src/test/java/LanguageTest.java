@@ -22,7 +22,7 @@ public final class LanguageTest {
         "int image()", "int restore()", "int count(int)", "long digest()"};
     private static final String[] BANNED = {"throw", "throws", "try", "catch", "finally", "synchronized", "assert",
         "import", "package", "protected", "native", "volatile", "transient", "Object", "Random", "System\\.(?!arraycopy)",
-        "Thread", "->", "::", "equals", "hashCode", "toString", "while"};
+        "Thread", "->", "::", "equals", "hashCode", "toString"};
     private static final Due due = new Due();
 
     public static void main(String[] args) throws IOException {
