@@ -6,7 +6,9 @@ import java.lang.reflect.Method;
 import java.lang.reflect.Modifier;
 import java.nio.file.Files;
 import java.nio.file.Path;
+import java.util.Map;
 import java.util.Set;
+import java.util.TreeMap;
 import java.util.TreeSet;
 import java.util.regex.Matcher;
 import java.util.regex.Pattern;
@@ -39,6 +41,7 @@ public final class LanguageTest {
             }
         }
         methodsAreShort(source);
+        callsAreNotDeep(source);
         due.end();
     }
 
@@ -109,6 +112,41 @@ public final class LanguageTest {
             found++;
         }
         due.isTrue("methods were found", found > 50);
+    }
+
+    /** Rule 11: calls that are no recursion go at most eight deep, a call of the library being one of them. */
+    private static void callsAreNotDeep(String source) {
+        Map<String, Set<String>> calls = new TreeMap<>();
+        Matcher heads = Pattern
+            .compile("(?m)^( {4}| {8})(?!if |for |while |switch )[^ \\n}].*?(\\w+)\\(.*\\) \\{$")
+            .matcher(source);
+        while (heads.find()) {
+            int end = source.indexOf("\n" + heads.group(1) + "}", heads.end());
+            // Methods of one name in two classes are taken for one that calls what both do.
+            Set<String> called = calls.computeIfAbsent(heads.group(2), name -> new TreeSet<>());
+            Matcher names = Pattern.compile("\\b(\\w+)\\(").matcher(source.substring(heads.end(), end));
+            while (names.find()) {
+                called.add(names.group(1));
+            }
+        }
+        for (String name : calls.keySet()) {
+            due.isTrue(name + " is deep by " + depth(calls, name, 0), depth(calls, name, 0) <= 8);
+        }
+        due.isTrue("chains of calls were found", depth(calls, "digest", 0) > 4);
+    }
+
+    private static int depth(Map<String, Set<String>> calls, String name, int above) {
+        if (name.matches("if|for|while|switch|return")) {
+            return 0;
+        }
+        int deepest = 0;
+        for (String called : calls.getOrDefault(name, Set.of())) {
+            // A method may call itself; a ring of several would go beyond any bound here.
+            if (!called.equals(name) && above < 20) {
+                deepest = Math.max(deepest, depth(calls, called, above + 1));
+            }
+        }
+        return deepest + 1;
     }
 
     private static String withoutComments(String source) {
