@@ -21,6 +21,7 @@ public final class EdgesOfForesightTest {
         oddsRefusals();
         whereTheLeastOfLikeOnes();
         whereTheGreatest();
+        whereOthersTakeTheRoom();
         whereThereMayBeNone();
         whereNoneMakesThemGreater();
         whereByTheNextLetter();
@@ -156,6 +157,19 @@ public final class EdgesOfForesightTest {
             x.file(FILE, 4);
             x.copy(1, 5);
         }));
+    }
+
+    /** Room 1: what the rumours 0 and 1 take, and whether 1 is kept, is a matter of how likely 2 is left. */
+    private static void whereOthersTakeTheRoom() {
+        edges.says(Edges.TERMS, "under the least LETTER where it has none and there is ROOM, if there is one");
+        Supplier<BurntLetters> three = law("333100;1", x -> {
+            x.file(RUMOUR, 0);
+            x.file(RUMOUR, 1);
+            x.file(RUMOUR, 3);
+            x.copy(2, 2);
+            x.point(0, 1);
+        });
+        whereIs(4, 2, 3, three);
     }
 
     private static void whereThereMayBeNone() {
